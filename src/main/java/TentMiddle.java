@@ -676,7 +676,12 @@ public final class TentMiddle {
         int most = -1;
         int first = 0;
         for (int k = 0; k < ORDERS; k++) {
-            int reached = tryOrder(aim);
+            if (aim == FOR_BAGS) {
+                trial.takeBags(camp, orders.order);
+            } else {
+                trial.layBy(orders.order);
+            }
+            int reached = aim == FOR_LEAST ? trial.leastSlept() : trial.sleptByAll();
             if (reached > most) {
                 most = reached;
                 first = k;
@@ -688,15 +693,6 @@ public final class TentMiddle {
         orders.goTo(camp.size, first);
         orders.writeTo(rows, r);
         return most;
-    }
-
-    private int tryOrder(int aim) {
-        if (aim == FOR_BAGS) {
-            trial.takeBags(camp, orders.order);
-        } else {
-            trial.layBy(orders.order);
-        }
-        return aim == FOR_LEAST ? trial.leastSlept() : trial.sleptByAll();
     }
 
     private int suspects(int r, int reach) {
@@ -1095,7 +1091,7 @@ public final class TentMiddle {
                 case 0:
                     return kind[i];
                 case 1:
-                    return giving(i);
+                    return givenFrom(place[i]);
                 case 2:
                     return bag[i];
                 case 3:
@@ -1118,17 +1114,17 @@ public final class TentMiddle {
             return kind == THUNDER ? 2 : kind == SNORER ? 1 : 0;
         }
 
-        int giving(int i) {
-            return kind[i] == STOVE ? 2 * gives[i] : gives[i];
-        }
-
         private int givenFrom(int p) {
-            return p >= 0 && p < size ? giving(who[p]) : 0;
+            if (p < 0 || p >= size) {
+                return 0;
+            }
+            int i = who[p];
+            return kind[i] == STOVE ? 2 * gives[i] : gives[i];
         }
 
         int givenAway(int i) {
             int beside = (place[i] > 0 ? 1 : 0) + (place[i] < size - 1 ? 1 : 0);
-            return beside * giving(i);
+            return beside * givenFrom(place[i]);
         }
 
         boolean isAtRim(int i) {
@@ -1145,7 +1141,8 @@ public final class TentMiddle {
 
         /** Whether one lies within so many PLACES of another one. */
         private boolean isWithin(int i, int other, int reach) {
-            return i != other && Math.abs(place[i] - place[other]) <= reach;
+            int off = place[i] - place[other];
+            return off != 0 && off <= reach && -off <= reach;
         }
 
         boolean hearsWithin(int i, int snorer, int reach) {
@@ -1169,7 +1166,11 @@ public final class TentMiddle {
         }
 
         private boolean hearsAny(int i) {
-            return !isOf(kind[i], DEAF) && snorersNear(i) > 0;
+            boolean near = false;
+            for (int other = 0; other < size && !near; other++) {
+                near = isWithin(i, other, reach(kind[other]));
+            }
+            return near && !isOf(kind[i], DEAF);
         }
 
         int feeling(int i, int h) {

@@ -554,6 +554,22 @@ public final class PromisesTest {
         dueTold(x, "PLACE of 0 stays", x.sleeper(0, 3), 2);
         due("undo(0) without SLEEPERS", new TentMiddle().undo(0), 0);
         due("undo(1) without SLEEPERS", new TentMiddle().undo(1), BAD);
+        x = tentOf("c00000000 s09 s08");
+        for (int k = 0; k < 39; k++) {
+            due("hour() " + k, x.hour(), k % 8 < 3 ? 3 : 0);
+            if (k % 8 == 7) {
+                x.night();
+            }
+        }
+        x.change(0, 1);
+        x.bottle(1);
+        long aheadOfLast = x.digest();
+        x.hour();
+        x.bags(0, 1);
+        x.change(0, 1);
+        x.bottle(0);
+        due("undo(39)", x.undo(39), 1);
+        due("as it was ahead of the last of 40 HOURS", x.digest(), aheadOfLast);
         x = tentOf("c00000000 s09");
         x.keep(0);
         x.hour();
