@@ -143,7 +143,10 @@ final class FeelEdges {
         Run.of("c00000000 d00 n50 s00").tells(3 - 2, "good", 1);
         // another SNORER is heard all the same
         Run.of("c00000000 n09 s09 n09").tells(0, "good", 0).tells(0, "good", 2).tells(0, "good", 1);
-        // one's own sleep does not count, nor who lies too far off
+        // one's own sleep does not count: a STONE is not WOKEN, a DEAF one HEARS none
+        Run.of("c00000000 s09 k09 s09").then("turns", 36).tells(0, "good", 1);
+        Run.of("c00000000 n09 d09 s09").tells(0, "good", 1);
+        // nor who lies too far off
         Run x = Run.of("c77777777 s50 d09 s07 s09 h50").tells(0, "good", 2).changesOnly("asked", "good", 4);
         x.changesOnly("asked", "good", 0);
         Run.of("c00000000 s00 s09 s09 s09 t59").tells(4 - 10, "good", 4).then("change", 4, 1).tells(3 - 10, "good", 4);

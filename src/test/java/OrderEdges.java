@@ -5,11 +5,14 @@ import java.util.List;
 final class OrderEdges {
     private static final int BAD = Run.BAD, STATE = Run.STATE, NOUGHT = Run.NOUGHT, LEAST = Run.LEAST, MOST = Run.MOST;
     private static final int[] NO_ROWS = {LEAST, -9, -1, 6, 7, 40, MOST};
+    /** With TURNS in HOURS 2 and 5 the last of all ORDERS, and it alone, is the best one, the fairest one, so for BAGS. */
+    private static final String LAST_IS_BEST = "c42034632 d26 k10 d24 s02 d09", LAST_IS_FAIR = "c46166692 d03 k53 d11 d06 s19",
+            LAST_IS_THIN = "c41010435 d48 k15 d11 d00 d07";
     /** Where each ORDER, BAG and TURN makes a difference, and where none does. */
     private static final String[] TENTS = {
         "c34567865 s24 n36 d15 h33 t27", "c12321232 n18 k05 t42 h50 s39", "c00000000 s09 s09 s09 s09 s09",
         "c99999999 s00 s00 s00 s00 s00", "c45454545 h50 s03 s17 d26 n38", "c20304050 t09 n29 s34", "c77777777 s58 h59",
-        "c31323334 s03", "c53545352 d14 h31 k28 n05",
+        "c31323334 s03", "c53545352 d14 h31 k28 n05", LAST_IS_BEST, LAST_IS_FAIR, LAST_IS_THIN,
     };
 
     private OrderEdges() {
@@ -104,6 +107,7 @@ final class OrderEdges {
         dueRow(withRows("c00000000 s09 n09 d09"), 9, new int[] {0, 2, 1}, "best");
         // the STONE in the middle SLEEPS 8, at the RIM 5; 0 SLEEPS 3 in the middle: 0 2 1 is the first of four best ones
         dueRow(withRows("c22222222 s00 s09 k05").then("turns", 36), 0 + 8 + 6, new int[] {0, 2, 1}, "best");
+        Run.of(LAST_IS_BEST).then("turns", 36).then("best", 0).holds(0, 4, 3, 2, 1, 0);
         for (String tent : TENTS) {
             for (Run x : settings(tent)) {
                 int[][] orders = orders((int) x.again().ask("count", 0));
@@ -143,6 +147,7 @@ final class OrderEdges {
         dueRow(withRows("c00000000 n09 s09"), 0, new int[] {0, 1}, "fair");
         // at the RIM a BAG of 3 is needed in HOUR 2: 2 and 3 lie there
         dueRow(withRows("c00000000 s00 s02 s05 s09"), 3, new int[] {2, 0, 1, 3}, "fair");
+        Run.of(LAST_IS_FAIR).then("turns", 36).then("fair", 0).holds(0, 4, 3, 2, 1, 0);
         for (String tent : TENTS) {
             for (Run x : settings(tent)) {
                 int[][] orders = orders((int) x.again().ask("count", 0));
@@ -245,16 +250,19 @@ final class OrderEdges {
         dueRow(withRows("c22222222 s00 s09 s09"), 3 + 1 + 3, new int[] {1, 0, 2}, "thin");
         // whose BAG, not to whom: 0 gets that of 1, 1 that of 2, 2 that of 0
         dueRow(withRows("c33333333 k00 k09 s09"), 1 + 3 + 3, new int[] {1, 0, 2}, "thin");
+        Run.of(LAST_IS_THIN).then("turns", 36).then("thin", 0).holds(0, 4, 3, 2, 1, 0);
         for (String tent : TENTS) {
             int[][] orders = orders((tent.length() - 9) / 4);
-            int best = 0;
-            long most = -1;
-            for (int k = 0; k < orders.length; k++) {
-                long worth = Run.of(withBags(tent, orders[k])).ask("worth");
-                best = worth > most ? k : best;
-                most = Math.max(worth, most);
+            for (int turns : new int[] {0, 36}) {
+                int best = 0;
+                long most = -1;
+                for (int k = 0; k < orders.length; k++) {
+                    long worth = Run.of(withBags(tent, orders[k])).then("turns", turns).ask("worth");
+                    best = worth > most ? k : best;
+                    most = Math.max(worth, most);
+                }
+                Run.of(tent).then("turns", turns).answers(most, "thin", 3).holds(3, orders[best]);
             }
-            Run.of(tent).answers(most, "thin", 3).holds(3, orders[best]);
             // BAGS were changed ahead: those that SLEEPERS have now go round
             if (orders.length > 1) {
                 int[] swapped = orders[orders.length - 1];
@@ -277,6 +285,23 @@ final class OrderEdges {
     @Says("STATE: no SLEEPERS.")
     static void p37_STATE() {
         Run.fresh().refuses(STATE, "thin", 0).then("row", 5, 3).refuses(STATE, "thin", 5);
+    }
+
+    // ---- what was tried ahead
+
+    @Says("A TENT by a TEXT (anew:")
+    static void p11_what_was_tried_in_a_TENT_ahead_is_forgotten() {
+        for (String ahead : TENTS) {
+            for (String tent : TENTS) {
+                Run x = Run.of(ahead).then("turns", 36).then("best", 0).then("fair", 1).then("thin", 2).then("nights", 3, 3);
+                x.then("turning").then("warm").then("good", 0).then("kinds", 0, 5).write(0, tent).then("tent", 0);
+                Run y = Run.of(tent);
+                x.answers(y.ask("best", 0), "best", 0).answers(y.ask("fair", 1), "fair", 1).answers(y.ask("thin", 2), "thin", 2);
+                x.answers(y.ask("kinds", 0, 3), "kinds", 0, 3).answers(y.ask("nights", 1, 3), "nights", 1, 3);
+                x.answers(y.ask("nights", 2, 4), "nights", 2, 4).answers(y.ask("nights", 3, 5), "nights", 3, 5);
+                x.then("good", 0).isLike("a TENT behind another one", y.then("good", 0), "");
+            }
+        }
     }
 
     // ---- nights, nth
@@ -313,6 +338,7 @@ final class OrderEdges {
                 }
             }
         }
+        Run.of(LAST_IS_FAIR).then("turns", 36).then("nights", 1, 0).holds(0, 119);
         // the NIGHTS and HOURS that went by are none of them
         Run.of("c00000000 n09 s09 s09").hours(8).then("night").answers(3, "nights", 2, 0).holds(0, 0, 1);
     }
