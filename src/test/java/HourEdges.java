@@ -187,6 +187,9 @@ final class HourEdges {
         x.answers(2, "keep", 2).answers(3, "count", 8).answers(2, "keep", 0).answers(3, "count", 8);
         x.answers(2, "on", 0).answers(1, "on", 1).answers(2, "on", 2);
         gone(TWO, 40).answers(40, "keep", 2).then("undo", 0).answers(0, "count", 1).answers(40, "on", 2).answers(40, "undo", 0);
+        // kept in the same place, with fewer HOURS than ahead
+        gone(TWO, 5).answers(5, "keep", 0).then("undo", 2).answers(2, "keep", 0).hours(4).answers(2, "on", 0)
+                .isLike("kept anew", gone(TWO, 2).then("keep", 0), "").refuses(BAD, "undo", 3).answers(2, "undo", 0);
         // what comes later does not come to what is kept
         Run kept = Run.rich().then("keep", 0);
         Run y = kept.again().then("vent", 0).then("bottle", 0).then("turns", 255).then("change", 1, 2).then("bags", 0, 4);

@@ -115,6 +115,10 @@ final class TentEdges {
             full.hours(8).then("night");
         }
         full.tells(40, "sleeper", 0, 4).tells(40, "sleeper", 0, 5);
+        // truly: as it was in each HOUR, not as it is now
+        Run moved = Run.of(Run.alike("00000000", 3, "s09")).then("hour").then("change", 0, 1).hours(2).then("turns", 255);
+        moved.tells(1, "sleeper", 0, 5).tells(2, "sleeper", 1, 5).tells(3, "sleeper", 2, 5).tells(3, "sleeper", 0, 4);
+        moved.then("hour").tells(3, "sleeper", 0, 4).tells(3, "sleeper", 1, 5);
         // what is slept aside, by lots or otherwise, is not slept truly
         Run.of("c00000000 s09").then("worth").then("slept", 0).then("lots", 1).then("night").tells(0, "sleeper", 0, 4);
     }
