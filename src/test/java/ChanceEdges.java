@@ -73,7 +73,9 @@ final class ChanceEdges {
         dueWhose("c00000000 d09 k09 t09 h09 n09", 0b01000, 0b01000, 0, 0, 1, 0, 1);
         dueWhose(Run.alike("00000000", 5, "k09"), ALL, ALL, 0, 0, 0, 0, 0);
         dueWhose(Run.alike("00000000", 5, "k09"), 0, 0, 0, 0, 0, 0, 1);
-        // by PLACES, as they lie
+        // by PLACES, as they lie: DEAF 0 lies at PLACE 2, STONE 3 at PLACE 0
+        Run y = Run.of("c00000000 d09 s09 s09 k09 s09").fill(1, 3, 1, 0, 4, 2).then("lie", 1);
+        y.fill(0, 0, 0, 0, 1, 0).answersTelling(0b00100, 0b00110, "whose", 0);
         Run x = Run.of(five).then("change", 0, 4).fill(0, 0, 1, 0, 0, 0).answersTelling(0b10000, 0, "whose", 0);
         x.changesOnly("asked", "whose", 0);
     }
@@ -120,6 +122,26 @@ final class ChanceEdges {
 
     // ---- kinds
 
+    private static void dueKinds(String tent, int i) {
+        Run[] runs = Tents.set(tent);
+        long[][] worth = new long[runs.length][6];
+        for (int kind = 0; kind < 6; kind++) {
+            Run[] others = Tents.set(Tents.with(tent, i, Tents.LETTERS.charAt(kind) + Tents.item(tent, i).substring(1)));
+            for (int k = 0; k < runs.length; k++) {
+                worth[k][kind] = others[k].ask("worth");
+            }
+        }
+        for (int k = 0; k < runs.length; k++) {
+            for (long v : worth[k]) {
+                int want = 0;
+                for (int kind = 0; kind < 6; kind++) {
+                    want |= worth[k][kind] == v ? 1 << kind : 0;
+                }
+                runs[k].answers(want, "kinds", i, (int) v);
+            }
+        }
+    }
+
     @Says("Of which KINDS (bits) one can be so that an ORDER has WORTH v (as they lie, all else as it is).")
     static void p42_kinds() {
         Run.of("c99999999 s00").answers(0b111111, "kinds", 0, 0).answers(0, "kinds", 0, 1);
@@ -135,6 +157,12 @@ final class ChanceEdges {
         // as they lie
         x.then("change", 0, 1).answers(0b010010, "kinds", 0, 3).answers(0, "kinds", 0, 6).changesOnly("", "kinds", 0, 3);
         Run.rich().changesOnly("", "kinds", 0, 9);
+        // all else as it is, in each TENT: one of another letter lies there in one's stead
+        for (String tent : Tents.ALL) {
+            for (int i = 0; i < Tents.many(tent); i++) {
+                dueKinds(tent, i);
+            }
+        }
     }
 
     @Says("BAD.")
@@ -214,6 +242,13 @@ final class ChanceEdges {
                 x.answers(y.again().ask("worth"), "lots", seed).lies(order).isLike("lots(" + seed + ")", y, "asked");
                 // how they lay ahead changes nothing
                 x.answers(y.again().ask("worth"), "lots", seed).lies(order);
+            }
+        }
+        // nothing but PLACES changes, however the TENT is set
+        for (String tent : Tents.ALL) {
+            for (Run x : Tents.set(tent)) {
+                Run y = x.again().fill(0, orderByLots(Tents.many(tent), 4711)).then("lie", 0).then("tear", 0);
+                x.answers(y.again().ask("worth"), "lots", 4711).isLike("lots(4711)", y, "asked");
             }
         }
     }

@@ -130,6 +130,14 @@ final class FeelEdges {
         Run.fresh().fill(0, 7).then("at", 0, 0).refuses(STATE, "coldest");
     }
 
+    private static int sleptByOthers(Run x, int one) {
+        int sum = 0;
+        for (int i = 0; i < x.ask("count", 0); i++) {
+            sum += i == one ? 0 : (int) x.ask("slept", i);
+        }
+        return sum;
+    }
+
     @Says("How many HOURS more all others SLEEP in a NIGHT, as one is beside them, than if one GAVE 0 and SNORED not, "
             + "told by asked() (perhaps below 0): 1.")
     static void p31_good() {
@@ -150,6 +158,16 @@ final class FeelEdges {
         Run x = Run.of("c77777777 s50 d09 s07 s09 h50").tells(0, "good", 2).changesOnly("asked", "good", 4);
         x.changesOnly("asked", "good", 0);
         Run.of("c00000000 s00 s09 s09 s09 t59").tells(4 - 10, "good", 4).then("change", 4, 1).tells(3 - 10, "good", 4);
+        // in each TENT as it is: one of the same BAG who GIVES 0 and SNORES not lies there in one's stead
+        for (String tent : Tents.ALL) {
+            for (int i = 0; i < Tents.many(tent); i++) {
+                Run[] with = Tents.set(tent);
+                Run[] without = Tents.set(Tents.with(tent, i, "s0" + Tents.item(tent, i).charAt(2)));
+                for (int k = 0; k < with.length; k++) {
+                    with[k].tells(sleptByOthers(with[k].again(), i) - sleptByOthers(without[k], i), "good", i);
+                }
+            }
+        }
     }
 
     @Says("BAD.")

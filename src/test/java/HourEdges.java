@@ -35,6 +35,15 @@ final class HourEdges {
         Run some = Run.of("c00000000 s09 n09 s09 k09").then("turns", 4);
         some.answers(0b1010, "hour").answers(0b1010, "hour").answers(0b1000, "hour").answers(0b1010, "hour");
         some.answers(0b1010, "hour").answers(0, "hour").tells(0, "sleeper", 0, 4).tells(4, "sleeper", 1, 4).tells(5, "sleeper", 3, 4);
+        // in any NIGHT one SLEEPS as sleeps() tells
+        for (String tent : Tents.ALL) {
+            for (Run set : Tents.set(tent)) {
+                set.then("night");
+                for (int h = 0; h < 8; h++) {
+                    set.answers(set.ask("sleeps", h), "hour");
+                }
+            }
+        }
         // it tells nothing by asked()
         Run.rich().then("at", 2, 39).then("hour").answers(MOST, "asked");
     }
@@ -75,6 +84,10 @@ final class HourEdges {
         // HOURS to come were not: nobody slept them, or was at the RIM in them
         x.tells(3, "sleeper", 0, 5).tells(3, "sleeper", 0, 4).tells(1, "sleeper", 1, 4);
         x.hours(8).answers(3, "night").answers(11, "count", 1).answersTelling(0, 3, "now");
+        // with HOUR 0, however many HOURS the last one had: only HOUR 0 is cold, in HOUR 3 one is SORE
+        Run cold = Run.of("c90000000 s07").answers(0, "hour").answers(1, "hour").then("night");
+        cold.answers(0, "hour").answers(1, "hour").answers(1, "hour").answers(0, "hour").then("night").then("night");
+        cold.answers(0, "hour").answers(1, "hour").answers(1, "hour").answers(0, "hour");
         // what was set stays
         x.lies(1, 0).answers(1, "count", 4).answers(6, "count", 3).answers(1, "bottle", 1).tells(8, "sleeper", 0, 2);
     }

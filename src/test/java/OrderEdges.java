@@ -5,15 +5,6 @@ import java.util.List;
 final class OrderEdges {
     private static final int BAD = Run.BAD, STATE = Run.STATE, NOUGHT = Run.NOUGHT, LEAST = Run.LEAST, MOST = Run.MOST;
     private static final int[] NO_ROWS = {LEAST, -9, -1, 6, 7, 40, MOST};
-    /** With TURNS in HOURS 2 and 5 the last of all ORDERS, and it alone, is the best one, the fairest one, so for BAGS. */
-    private static final String LAST_IS_BEST = "c42034632 d26 k10 d24 s02 d09", LAST_IS_FAIR = "c46166692 d03 k53 d11 d06 s19",
-            LAST_IS_THIN = "c41010435 d48 k15 d11 d00 d07";
-    /** Where each ORDER, BAG and TURN makes a difference, and where none does. */
-    private static final String[] TENTS = {
-        "c34567865 s24 n36 d15 h33 t27", "c12321232 n18 k05 t42 h50 s39", "c00000000 s09 s09 s09 s09 s09",
-        "c99999999 s00 s00 s00 s00 s00", "c45454545 h50 s03 s17 d26 n38", "c20304050 t09 n29 s34", "c77777777 s58 h59",
-        "c31323334 s03", "c53545352 d14 h31 k28 n05", LAST_IS_BEST, LAST_IS_FAIR, LAST_IS_THIN,
-    };
 
     private OrderEdges() {
     }
@@ -75,11 +66,6 @@ final class OrderEdges {
         return java.util.Arrays.stream(numbers).min().orElse(0);
     }
 
-    private static Run[] settings(String tent) {
-        Run x = Run.of(tent);
-        return new Run[] {x, x.again().then("turns", 36).then("lots", 6), x.again().then("turns", 72).then("vent", 1)};
-    }
-
     /** A ROW comes anew, whatever it was, and nothing else changes. */
     private static void dueRow(Run x, long answer, int[] row, String name, int... ahead) {
         int[] arguments = java.util.Arrays.copyOf(ahead, ahead.length + 1);
@@ -107,9 +93,9 @@ final class OrderEdges {
         dueRow(withRows("c00000000 s09 n09 d09"), 9, new int[] {0, 2, 1}, "best");
         // the STONE in the middle SLEEPS 8, at the RIM 5; 0 SLEEPS 3 in the middle: 0 2 1 is the first of four best ones
         dueRow(withRows("c22222222 s00 s09 k05").then("turns", 36), 0 + 8 + 6, new int[] {0, 2, 1}, "best");
-        Run.of(LAST_IS_BEST).then("turns", 36).then("best", 0).holds(0, 4, 3, 2, 1, 0);
-        for (String tent : TENTS) {
-            for (Run x : settings(tent)) {
+        Run.of(Tents.LAST_IS_BEST).then("turns", 36).then("best", 0).holds(0, 4, 3, 2, 1, 0);
+        for (String tent : Tents.ALL) {
+            for (Run x : Tents.set(tent)) {
                 int[][] orders = orders((int) x.again().ask("count", 0));
                 int[][] slept = sleptByOrders(x, orders);
                 int best = 0;
@@ -147,9 +133,9 @@ final class OrderEdges {
         dueRow(withRows("c00000000 n09 s09"), 0, new int[] {0, 1}, "fair");
         // at the RIM a BAG of 3 is needed in HOUR 2: 2 and 3 lie there
         dueRow(withRows("c00000000 s00 s02 s05 s09"), 3, new int[] {2, 0, 1, 3}, "fair");
-        Run.of(LAST_IS_FAIR).then("turns", 36).then("fair", 0).holds(0, 4, 3, 2, 1, 0);
-        for (String tent : TENTS) {
-            for (Run x : settings(tent)) {
+        Run.of(Tents.LAST_IS_FAIR).then("turns", 36).then("fair", 0).holds(0, 4, 3, 2, 1, 0);
+        for (String tent : Tents.ALL) {
+            for (Run x : Tents.set(tent)) {
                 int[][] orders = orders((int) x.again().ask("count", 0));
                 int[][] slept = sleptByOrders(x, orders);
                 int best = 0;
@@ -183,16 +169,17 @@ final class OrderEdges {
         Run.of("c99999909 s05").answersTelling(16, 1, "turning");
         Run.of("c99999990 s05").answersTelling(32, 1, "turning");
         Run.of("c99990999 s05").answersTelling(4, 1, "turning");
-        for (String tent : TENTS) {
-            Run x = Run.of(tent);
-            int best = 0;
-            long most = -1;
-            for (int set = 0; set < 256; set++) {
-                long worth = x.again().then("turns", set).ask("worth");
-                best = worth > most ? set : best;
-                most = Math.max(worth, most);
+        for (String tent : Tents.ALL) {
+            for (Run x : Tents.set(tent)) {
+                int best = 0;
+                long most = -1;
+                for (int set = 0; set < 256; set++) {
+                    long worth = x.again().then("turns", set).ask("worth");
+                    best = worth > most ? set : best;
+                    most = Math.max(worth, most);
+                }
+                x.answersTelling(best, (int) most, "turning").changesOnly("asked", "turning");
             }
-            x.answersTelling(best, (int) most, "turning").changesOnly("asked", "turning");
         }
         Run.rich().changesOnly("asked", "turning");
     }
@@ -212,16 +199,17 @@ final class OrderEdges {
         Run.of("c69999999 s00 s03 s00 s03 s00").answersTelling(1, 1, "warm");
         // HOUR 2 alone: from PLACE 3 the BOTTLE comes round to PLACE 0
         Run.of("c99599999 s05 s00 s00 s00 s00").answersTelling(3, 1, "warm");
-        for (String tent : TENTS) {
-            Run x = Run.of(tent);
-            int best = 0;
-            long most = -1;
-            for (int p = 0; p < x.again().ask("count", 0); p++) {
-                long worth = x.again().then("bottle", p).ask("worth");
-                best = worth > most ? p : best;
-                most = Math.max(worth, most);
+        for (String tent : Tents.ALL) {
+            for (Run x : Tents.set(tent)) {
+                int best = 0;
+                long most = -1;
+                for (int p = 0; p < Tents.many(tent); p++) {
+                    long worth = x.again().then("bottle", p).ask("worth");
+                    best = worth > most ? p : best;
+                    most = Math.max(worth, most);
+                }
+                x.answersTelling(best, (int) most, "warm").changesOnly("asked", "warm");
             }
-            x.answersTelling(best, (int) most, "warm").changesOnly("asked", "warm");
         }
         Run.rich().changesOnly("asked", "warm");
     }
@@ -241,6 +229,25 @@ final class OrderEdges {
         return s.toString();
     }
 
+    /** Those who have the BAGS now give them by bags() alone to those who are to have them. */
+    private static long worthByBags(Run x, int[] whose) {
+        Run y = x.again();
+        int[] has = new int[whose.length];
+        for (int i = 0; i < has.length; i++) {
+            has[i] = i;
+        }
+        for (int i = 0; i < has.length; i++) {
+            int holder = i;
+            while (has[holder] != whose[i]) {
+                holder++;
+            }
+            y.then("bags", i, holder);
+            has[holder] = has[i];
+            has[i] = whose[i];
+        }
+        return y.ask("worth");
+    }
+
     @Says("Who is to have whose BAG so that WORTH is most: a row of those whose BAGS SLEEPERS 0, 1, .. have (the first) comes to "
             + "a ROW (anew): WORTH.")
     static void p37_thin() {
@@ -249,19 +256,19 @@ final class OrderEdges {
         // the one without a BAG is to lie in the middle: it FEELS -2 there, 1 with the BOTTLE
         dueRow(withRows("c22222222 s00 s09 s09"), 3 + 1 + 3, new int[] {1, 0, 2}, "thin");
         // whose BAG, not to whom: 0 gets that of 1, 1 that of 2, 2 that of 0
-        dueRow(withRows("c33333333 k00 k09 s09"), 1 + 3 + 3, new int[] {1, 0, 2}, "thin");
-        Run.of(LAST_IS_THIN).then("turns", 36).then("thin", 0).holds(0, 4, 3, 2, 1, 0);
-        for (String tent : TENTS) {
-            int[][] orders = orders((tent.length() - 9) / 4);
-            for (int turns : new int[] {0, 36}) {
+        dueRow(withRows("c00400000 s04 s09 s00"), 3 + 2 + 3, new int[] {1, 2, 0}, "thin");
+        Run.of(Tents.LAST_IS_THIN).then("turns", 36).then("thin", 0).holds(0, 4, 3, 2, 1, 0);
+        for (String tent : Tents.ALL) {
+            int[][] orders = orders(Tents.many(tent));
+            for (Run x : Tents.set(tent)) {
                 int best = 0;
                 long most = -1;
                 for (int k = 0; k < orders.length; k++) {
-                    long worth = Run.of(withBags(tent, orders[k])).then("turns", turns).ask("worth");
+                    long worth = worthByBags(x, orders[k]);
                     best = worth > most ? k : best;
                     most = Math.max(worth, most);
                 }
-                Run.of(tent).then("turns", turns).answers(most, "thin", 3).holds(3, orders[best]);
+                x.again().answers(most, "thin", 3).holds(3, orders[best]);
             }
             // BAGS were changed ahead: those that SLEEPERS have now go round
             if (orders.length > 1) {
@@ -291,8 +298,8 @@ final class OrderEdges {
 
     @Says("A TENT by a TEXT (anew:")
     static void p11_what_was_tried_in_a_TENT_ahead_is_forgotten() {
-        for (String ahead : TENTS) {
-            for (String tent : TENTS) {
+        for (String ahead : Tents.ALL) {
+            for (String tent : Tents.ALL) {
                 Run x = Run.of(ahead).then("turns", 36).then("best", 0).then("fair", 1).then("thin", 2).then("nights", 3, 3);
                 x.then("turning").then("warm").then("good", 0).then("kinds", 0, 5).write(0, tent).then("tent", 0);
                 Run y = Run.of(tent);
@@ -318,8 +325,8 @@ final class OrderEdges {
 
     @Says("ORDERS for n (1 .. 3) NIGHTS so that who SLEEPS least in all of them SLEEPS most:")
     static void p38_ORDERS_for_NIGHTS() {
-        for (String tent : TENTS) {
-            for (Run x : settings(tent)) {
+        for (String tent : Tents.ALL) {
+            for (Run x : Tents.set(tent)) {
                 int[][] orders = orders((int) x.again().ask("count", 0));
                 int[][] slept = sleptByOrders(x, orders);
                 int[] most = {0, -1, -1, -1};
@@ -338,7 +345,7 @@ final class OrderEdges {
                 }
             }
         }
-        Run.of(LAST_IS_FAIR).then("turns", 36).then("nights", 1, 0).holds(0, 119);
+        Run.of(Tents.LAST_IS_FAIR).then("turns", 36).then("nights", 1, 0).holds(0, 119);
         // the NIGHTS and HOURS that went by are none of them
         Run.of("c00000000 n09 s09 s09").hours(8).then("night").answers(3, "nights", 2, 0).holds(0, 0, 1);
     }
